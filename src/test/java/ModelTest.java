@@ -143,17 +143,23 @@ public final class ModelTest {
 
     /** One SECTION or two of each SUBJECT, crowded into few COLUMNS with few ROOMS: here two moves and HELD matter. */
     private void tightDesk() {
-        int n = 2 + random.nextInt(4);
-        subjects = Math.min(10, n + random.nextInt(3));
-        int rooms = Math.min(9, 1 + (subjects + n) / n);
+        int n = 2 + random.nextInt(5);
+        subjects = Math.min(8, n + random.nextInt(3));
+        int twice = random.nextBoolean() ? 2 : 1;
+        int rooms = twice + subjects / n;
         StringBuilder t = new StringBuilder().append(n).append('x').append(rooms);
         int[] filled = new int[n];
-        for (int s = 0; s < subjects; s++) {
+        int[] taught = new int[10];
+        for (int i = 0; i < subjects * twice; i++) {
+            int s = i % subjects;
+            int teacher = s + (i < subjects ? 0 : 1);
             int column = random.nextInt(n);
             column = filled[column] < rooms ? column : random.nextInt(n);
-            t.append(';').append(s).append('t').append(s).append('z').append(1 + random.nextInt(5));
-            if (filled[column] < rooms) {
+            t.append(';').append(s).append('t').append(teacher).append('z').append(1 + random.nextInt(5));
+            boolean free = (taught[teacher] >> column & 1) == 0;
+            if (filled[column] < rooms && free) {
                 t.append('@').append(column);
+                taught[teacher] |= 1 << column;
                 filled[column]++;
             }
         }

@@ -83,14 +83,14 @@ public final class PromisesTest {
         OptionLattice x = new OptionLattice();
         String[] desks = {
             "", "0", "7", "a", "4", "4y", "4x", "4x0", "4xa", "4x5,", "4x5;", "4x5;x", "4x5;b", "4x5;ba", "4x5;b2",
-            "4x5;b24", "4x5;b2;", "4x5;b2033", "4x5;b210", "4x5;b23;b13;b20", "4x5;1t3z1;b30", "4x5;0", "4x5;0x",
+            "4x5;b24", "4x5;b2;", "4x5;b2033", "4x5;b210", "4x5;b23;b13;b20", "4x5;b00;b01", "4x5;1t3z1;b30", "4x5;0", "4x5;0x",
             "4x5;0t", "4x5;0ta", "4x5;0t1", "4x5;0t1@", "4x5;0t1z", "4x5;0t1z0", "4x5;0t1z05", "4x5;0t1z31",
             "4x5;0t1z40", "4x5;0t1z300", "4x5;0t1z9 ", "4x5;0t1z9@", "4x5;0t1z9@4", "4x5;0t1z9@a", "4x5;0t1z9@00",
             "4x5;b13;0t1z9@3", "1x1;0t0z1@0;1t1z1@0", "1x1;0t0z1@0;1t1z1@", "2x2;0t0z1@0;1t0z1@0", "4x5 ",
         };
         int[] faults = {
             0, 0, 0, 0, 1, 1, 2, 2, 2, 3, 4, 4, 5, 5, 6,
-            6, 6, 8, 7, 13, 11, 5, 5,
+            6, 6, 8, 7, 13, 9, 11, 5, 5,
             6, 6, 7, 7, 8, 8, 8, 9,
             9, 10, 9, 10, 10, 10, 11,
             14, 18, 18, 18, 3,
@@ -402,6 +402,7 @@ public final class PromisesTest {
         x = Checks.made("3x9;2t0z1@0;4t1z1@0;4t2z1@2;7t3z1@0;7t4z1@1", "247");
         due("23: the least SUBJECT first", x.ways(0), 1);
         CHECKS.dueRow("23", x, 0, 2, 1);
+        sixOfSix();
         StringBuilder all = new StringBuilder("2x9");
         for (int s = 0; s < 10; s++) {
             all.append(';').append(s).append('t').append(s).append("z1@").append(s % 2);
@@ -413,6 +414,30 @@ public final class PromisesTest {
         CHECKS.dueRow("25", x, 45, 5);
         due("25: more than COLUMNS", x.sets(3), 0);
         CHECKS.dueRow("25", x, 120, 7);
+    }
+
+    private static void sixOfSix() {
+        StringBuilder ring = new StringBuilder("6x9");
+        for (int s = 0; s < 6; s++) {
+            ring.append(';').append(s).append('t').append(s).append("z1@").append(s);
+            ring.append(';').append(s).append('t').append(s).append("z1@").append((s + 1) % 6);
+        }
+        OptionLattice x = Checks.made(ring.toString(), "012345,01234");
+        due("23: all COLUMNS, one way round or the other", x.ways(0), 2);
+        CHECKS.dueRow("23", x, 0, 1, 2, 3, 4, 5);
+        due("23: one COLUMN is free", x.ways(1), 6);
+        CHECKS.dueRow("23", x, 0, 1, 2, 3, 4);
+        due("23: asked again", x.ways(0), 2);
+        due("25: sixes", x.sets(6), 1);
+        CHECKS.dueRow("25", x, 210, 95);
+        due("37: SEATS for one", x.seated(false), 2);
+        due("38: COLUMN 0 for the first", x.sits(0), 1);
+        due("38: COLUMN 1 for the second", x.sits(1), 2);
+        x.bars(9, 0, true);
+        due("33: FITS", x.cures(0), 0);
+        x.takes(0);
+        due("23: round the other way alone", x.ways(0), 1);
+        CHECKS.dueRow("23", x, 1, 2, 3, 4, 5, 0);
     }
 
     private static void crowds() {
