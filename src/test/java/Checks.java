@@ -1,3 +1,6 @@
+import java.util.function.Supplier;
+import java.util.function.ToLongFunction;
+
 /** What the tests share: answers compared with those due, and texts told by signs. */
 final class Checks {
     private int checked = 0;
@@ -20,6 +23,46 @@ final class Checks {
         for (int i = 0; i < want.length && i < x.count(7); i++) {
             due(call + ": row(" + i + ")", x.row(i), want[i]);
         }
+    }
+
+    void dueLook(String call, String got, String want) {
+        checked++;
+        if (!got.equals(want)) {
+            wrong++;
+            System.out.println(call + " shows\n" + got + "due is\n" + want);
+        }
+    }
+
+    /** The answer is the one due, and all is as it was: the state, THE TEXT, the ROW. */
+    void leaves(String call, Supplier<OptionLattice> made, ToLongFunction<OptionLattice> calls, long want) {
+        OptionLattice x = made.get();
+        due(call, calls.applyAsLong(x), want);
+        dueLook(call + " leaves all: it", Look.all(x), Look.all(made.get()));
+    }
+
+    /** The answer and the ROW are those due, and all else is as it was. */
+    void asks(String call, Supplier<OptionLattice> made, ToLongFunction<OptionLattice> calls, long want, long... row) {
+        tells(call, made, calls, want, made, row);
+    }
+
+    /** The answer and the ROW are those due, the state is then like that of another object, THE TEXT as it was. */
+    void tells(String call, Supplier<OptionLattice> made, ToLongFunction<OptionLattice> calls, long want,
+        Supplier<OptionLattice> then, long... row) {
+        OptionLattice x = made.get();
+        due(call, calls.applyAsLong(x), want);
+        dueRow(call, x, row);
+        dueLook(call + ": the state", Look.state(x), Look.state(then.get()));
+        dueLook(call + ": THE TEXT", Look.text(x), Look.text(made.get()));
+    }
+
+    /** The answer is the one due, the state is then like that of another object, THE TEXT and the ROW as they were. */
+    void changes(String call, Supplier<OptionLattice> made, ToLongFunction<OptionLattice> calls, long want,
+        Supplier<OptionLattice> then) {
+        OptionLattice x = made.get();
+        due(call, calls.applyAsLong(x), want);
+        dueLook(call + ": the ROW", Look.row(x), Look.row(made.get()));
+        dueLook(call + ": the state", Look.state(x), Look.state(then.get()));
+        dueLook(call + ": THE TEXT", Look.text(x), Look.text(made.get()));
     }
 
     /** Exit code 1 if an answer was not the one due. */
