@@ -19,6 +19,7 @@ public final class BoundsAsksTest {
         fitsNobodyAndAll();
         waysNoneAndMany();
         waysByRows();
+        waysAgain();
         crowdFewerColumnsThanSubjects();
         crowdFewestThenLeast();
         crowdOfWhoFits();
@@ -171,10 +172,24 @@ public final class BoundsAsksTest {
         CHECKS.asks("23: of the least SUBJECT first", least, x -> x.ways(0), 4, 1, 0);
     }
 
+    /** What one asking has counted does not stay for the next. */
+    private static void waysAgain() {
+        OptionLattice x = Fixture.full().get();
+        x.chooses(1, 5, false);
+        for (int i = 0; i < 3; i++) {
+            CHECKS.due("23: six", x.ways(0), 4);
+            CHECKS.dueRow("23: six", x, 0, 1, 2, 3, 4, 5);
+            CHECKS.due("23: five, 1 and 3 having three WAYS", x.ways(1), 6);
+            CHECKS.dueRow("23: five", x, 0, 1, 2, 3, 4);
+        }
+    }
+
     // ---- promise 24
 
     private static void crowdFewerColumnsThanSubjects() {
         CHECKS.asks("24: one in none", new Fixture("3x9;0t0z1@0;1t1z1@1;2t2z1", "012"), x -> x.crowd(0), 4, 1, 0);
+        CHECKS.asks("24: the first in none", new Fixture("3x9;1t1z1@1", "01"), x -> x.crowd(0), 1, 1, 0);
+        CHECKS.asks("24: the last in none", new Fixture("3x9;1t1z1@1", "19"), x -> x.crowd(0), 512, 1, 0);
         CHECKS.asks("24: two in one", new Fixture("3x9;0t0z1@2;1t1z1@2;1t2z1", "01"), x -> x.crowd(0), 3, 2, 4);
         Fixture three = new Fixture("3x9;0t0z1@0;0t0z1@1;1t1z1@0;1t1z1@1;2t2z1@0;2t2z1@1", "012,01");
         CHECKS.asks("24: three in two, no two in one", three, x -> x.crowd(0), 7, 3, 3);

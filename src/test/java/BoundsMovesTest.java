@@ -42,6 +42,7 @@ public final class BoundsMovesTest {
         laysNothing();
         laysMostChosenFirst();
         laysWhereMostFit();
+        laysSixteen();
         laysOutIfNoneIsLegal();
         CHECKS.close("BoundsMovesTest");
     }
@@ -243,6 +244,9 @@ public final class BoundsMovesTest {
         CHECKS.leaves("33: none that is LEGAL", new Fixture("1x1;b00;0t0z1", "0"), x -> x.cures(0), -2);
         CHECKS.leaves("33: three are OUT", new Fixture("3x9;0t0z1;1t1z1;2t2z1", "012"), x -> x.cures(0), -2);
         CHECKS.asks("33: two of three are OUT", new Fixture("3x9;0t0z1;1t1z1@0;2t2z1", "012"), x -> x.cures(0), 2, 1, 202);
+        CHECKS.leaves("33: of 16 SECTIONS", new Fixture("1x9" + times(16, ";1t1z1"), "0"), x -> x.cures(0), -2);
+        CHECKS.leaves("33: of 16 SECTIONS in COLUMNS", new Fixture(Fixture.fullDesk().replace(";9t9", ";8t9"), "9"),
+            x -> x.cures(0), -2);
         CHECKS.leaves("33: more CHOICES than COLUMNS", new Fixture("2x9;0t0z1@0;1t1z1@1;2t2z1@1", "012"), x -> x.cures(0), -2);
     }
 
@@ -253,6 +257,11 @@ public final class BoundsMovesTest {
         CHECKS.asks("33: 02 is KEPT", new Fixture(desk, "01,02,12", 1), x -> x.cures(0), 1, 101);
         Fixture between = new Fixture("2x9;0t0z1@0;1t1z1@1;2t2z1@0", "02,01", 1);
         CHECKS.asks("33: by one that is HELD", between, x -> x.cures(0), 1, 201);
+        CHECKS.leaves("33: the first PUPIL is KEPT", new Fixture("2x9;b01;b20;1t1z1@1;0t0z1@0;2t2z1@1", "01,12", 0),
+            x -> x.cures(1), -2);
+        CHECKS.asks("33: the first PUPIL is not", new Fixture("2x9;b01;b20;1t1z1@1;0t0z1@0;2t2z1@1", "01,12"), x -> x.cures(1), 1, 0);
+        CHECKS.leaves("33: the last of 24 is KEPT", new Fixture("2x9;b01;b20;1t1z1@1;0t0z1@0;2t2z1@1",
+            "12," + Fixture.pupils(22, "1") + ",01", 23), x -> x.cures(0), -2);
         String tight = "3x9;b012;b12;b22;0t0z1@0;1t1z1@0;2t2z1@1";
         CHECKS.asks("33: 12 loses", new Fixture(tight, "01,12"), x -> x.cures(0), 1, 101);
         CHECKS.asks("33: 12 loses between, but not at last", new Fixture(tight, "01,12", 1), x -> x.cures(0), 2, 101, 200);
@@ -328,6 +337,19 @@ public final class BoundsMovesTest {
             new Fixture("3x9;0t0z1@0;1t1z1@1", "01"), 1);
         CHECKS.tells("36: in the last COLUMN", new Fixture("3x9;0t0z1;1t1z1;2t2z1", "012,01,0"), x -> x.lays(), 3,
             new Fixture("3x9;0t0z1@0;1t1z1@1;2t2z1@2", "012,01,0"), 3);
+    }
+
+    private static void laysSixteen() {
+        CHECKS.tells("36: of one TEACHER one to a COLUMN", new Fixture("2x9" + times(16, ";0t0z1"), "0"), x -> x.lays(), 2,
+            new Fixture("2x9;0t0z1@0;0t0z1@1" + times(14, ";0t0z1"), "0"), 1);
+        StringBuilder out = new StringBuilder("2x8");
+        StringBuilder laid = new StringBuilder("2x8");
+        for (int i = 0; i < 16; i++) {
+            out.append(";0t").append(i % 8).append("z1");
+            laid.append(";0t").append(i % 8).append("z1@").append(i / 8);
+        }
+        CHECKS.tells("36: all 16, as ROOMS let them", new Fixture(out.toString(), ""), x -> x.lays(), 16,
+            new Fixture(laid.toString(), ""), 0);
     }
 
     private static void laysOutIfNoneIsLegal() {

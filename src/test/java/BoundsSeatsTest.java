@@ -18,6 +18,7 @@ public final class BoundsSeatsTest {
         seatedInAllOrNone();
         seatedInTheFirstWayWithSeats();
         seatedInTheFirstSectionWithASeat();
+        seatedAgain();
         sitsNobodyAndFull();
         sitsByNumbers();
         lackingNobody();
@@ -87,6 +88,23 @@ public final class BoundsSeatsTest {
         CHECKS.asks("38: the second one there", three, x -> x.sits(2), 4, 0);
         CHECKS.asks("38: then the other COLUMN", three, x -> x.sits(0), 8, 0);
         CHECKS.asks("38: never OUT", three, x -> x.sits(3), 0, 9);
+    }
+
+    /** What one asking has seated does not stay for the next. */
+    private static void seatedAgain() {
+        OptionLattice x = new Fixture("1x9;0t0z1@0;1t1z2@0", "0,0,1").get();
+        for (int i = 0; i < 3; i++) {
+            CHECKS.due("37: by numbers", x.seated(false), 2);
+            CHECKS.dueRow("37: by numbers", x, 5);
+            CHECKS.due("40: one more", x.wants(0), 1);
+            CHECKS.due("37: back", x.seated(true), 2);
+            CHECKS.dueRow("37: back", x, 6);
+            CHECKS.due("39: the second", x.lacking(), 2);
+            CHECKS.dueRow("39: the second", x, 1, 0);
+            CHECKS.due("38: the first", x.sits(0), 1);
+            CHECKS.due("38: the third", x.sits(1), 4);
+            CHECKS.dueRow("38: one SEAT is left", x, 1);
+        }
     }
 
     // ---- promise 38

@@ -17,6 +17,8 @@ public final class BoundsTextTest {
         deskInPlaceOfAll();
         eachSignOfADesk();
         deskThatEndsTooEarly();
+        signsThatAreGone();
+        nothingOfARefusedDesk();
         deskHead();
         barsOfATeacherOnce();
         barsRising();
@@ -228,6 +230,48 @@ public final class BoundsTextTest {
                 badDesk(own.substring(0, many), many);
             }
         }
+    }
+
+    /** Signs that were there once and are gone by end() are read by nobody. */
+    private static void signsThatAreGone() {
+        String own = "4x5;b203;0t2z20@1";
+        for (int many = 0; many <= own.length(); many++) {
+            OptionLattice x = new OptionLattice();
+            Checks.tell(x, own);
+            x.end(many);
+            CHECKS.due("4: the first " + many + " signs alone", x.desk(), Checks.desk(new OptionLattice(), own.substring(0, many)));
+        }
+        String choices = "013,9,245678,6";
+        for (int many = 0; many <= choices.length(); many++) {
+            OptionLattice x = new OptionLattice();
+            Checks.tell(x, choices);
+            x.end(many);
+            CHECKS.due("5: the first " + many + " signs alone", x.pupils(),
+                Checks.pupils(new OptionLattice(), choices.substring(0, many)));
+        }
+        OptionLattice x = new OptionLattice();
+        Checks.desk(x, "4x5;0t0z1@0;b10;");
+        CHECKS.due("4: nor those of a text that was read", Checks.desk(x, "4x5"), 0);
+        CHECKS.due("4: nor those of a text that was read", Checks.desk(x, "4"), -22);
+    }
+
+    /** What a refused text told before its fault comes to no later desk. */
+    private static void nothingOfARefusedDesk() {
+        for (int teacher = 0; teacher < 10; teacher++) {
+            OptionLattice x = new OptionLattice();
+            CHECKS.due("4: refused", Checks.desk(x, "6x9;b" + teacher + "012345;0t0z1;"), -21 - 19);
+            CHECKS.due("4: one SECTION", Checks.desk(x, "6x9;1t" + teacher + "z1"), 1);
+            CHECKS.due("4: no BARS", x.legal(0), 63);
+            CHECKS.due("4: no SECTION of 0", x.subject(0), 0);
+            CHECKS.dueRow("4: no SECTION of 0", x, 0, 0, 0);
+            CHECKS.due("4: BARS again", Checks.desk(x, "6x9;b" + teacher + "0"), 0);
+            CHECKS.due("4: those alone", x.bars(teacher, 5, true), 33);
+        }
+        OptionLattice x = new OptionLattice();
+        CHECKS.due("4: refused", Checks.desk(x, "2x9;3t3z1@1;4t4z1@1;"), -21 - 20);
+        CHECKS.due("4: another desk", Checks.desk(x, "2x9;3t3z1"), 1);
+        CHECKS.due("4: no COLUMN of 3", x.subject(3), 0);
+        CHECKS.due("4: no COLUMN of 4", x.subject(4), 0);
     }
 
     private static void deskHead() {
