@@ -6,6 +6,7 @@ import java.lang.reflect.Modifier;
 import java.nio.file.Files;
 import java.nio.file.Path;
 import java.util.List;
+import java.util.NoSuchElementException;
 import java.util.TreeSet;
 import java.util.regex.Matcher;
 import java.util.regex.Pattern;
@@ -55,7 +56,14 @@ public final class FaceTest {
         CHECKS.due("face " + there + ", due " + due, there.equals(due), true);
         for (Field f : OptionLattice.class.getDeclaredFields()) {
             CHECKS.due(f + " is private", Modifier.isPrivate(f.getModifiers()), !f.getName().equals("NONE"));
+            boolean open = f.getModifiers() == (Modifier.PUBLIC | Modifier.STATIC | Modifier.FINAL) && f.getType() == int.class;
+            CHECKS.due(f + " is a constant of the face", open, f.getName().equals("NONE"));
         }
+        for (Method m : OptionLattice.class.getDeclaredMethods()) {
+            boolean says = List.of(m.getExceptionTypes()).equals(List.of(NoSuchElementException.class));
+            CHECKS.due(m + " says what it throws", says, m.getName().equals("row"));
+        }
+        CHECKS.due("NONE", OptionLattice.NONE, -1);
         Constructor<?>[] made = OptionLattice.class.getDeclaredConstructors();
         CHECKS.due("constructors", made.length, 1);
         CHECKS.due("constructor is public", Modifier.isPublic(made[0].getModifiers()), true);

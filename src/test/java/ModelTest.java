@@ -1,10 +1,17 @@
 import java.util.NoSuchElementException;
 import java.util.Random;
 
-/** Runs of calls, drawn by fixed seeds, on the class and on NaiveDesk: all answers and all that shows must agree. */
+/**
+ * Runs of calls, drawn by fixed seeds, on the class and on NaiveDesk: all answers and all that shows must agree.
+ * An object is used for at most 512 calls, since what later calls answer is free; so each run is short, and there are many.
+ */
 public final class ModelTest {
-    private static final int RUNS = 1500;
-    private static final int CALLS = 90;
+    private static final int RUNS = 6000;
+    private static final int MOST_CALLS = 512;
+    /** What a new desk with new PUPILS takes, any other call with its looks, and the last look at all. */
+    private static final int NEW_DESK_CALLS = 140;
+    private static final int OTHER_CALLS = 20;
+    private static final int LAST_LOOK_CALLS = 180;
 
     private final Checks checks;
     private final Random random;
@@ -13,6 +20,7 @@ public final class ModelTest {
     private final int run;
     private final boolean small;
     private final StringBuilder told = new StringBuilder();
+    private int calls = 0;
     /** SUBJECTS in use: few enough that PUPILS choose what is there, and some FIT. */
     private int subjects = 10;
 
@@ -35,37 +43,77 @@ public final class ModelTest {
 
     private void go() {
         int before = checks.wrong();
-        newDesk();
-        newPupils();
         if (run % 3 == 1) {
             tightDesk();
+        } else {
+            newDesk();
+            newPupils();
         }
-        for (int i = 0; i < CALLS && checks.wrong() == before; i++) {
+        while (isRoomFor(OTHER_CALLS) && checks.wrong() == before) {
             call(random.nextInt(100));
         }
+        lastLook();
+        checks.due("calls of one object: " + calls, calls <= MOST_CALLS, true);
         if (checks.wrong() != before) {
             System.out.println("run " + run + ":\n" + told);
         }
     }
 
+    private boolean isRoomFor(int more) {
+        return calls + more + LAST_LOOK_CALLS <= MOST_CALLS;
+    }
+
+    /** The answer, the ROW, and something else that is drawn. */
     private void same(String call, long got, long want) {
+        sameAnswer(call, got, want);
+        sameRow();
+        int what = random.nextInt(12) - 1;
+        sameAnswer("count(" + what + ")", x.count(what), y.count(what));
+        if (!y.sections.isEmpty()) {
+            sameSection(random.nextInt(y.sections.size()), random.nextInt(4));
+        }
+    }
+
+    private void sameAnswer(String call, long got, long want) {
+        calls++;
         told.append(call).append(" = ").append(want).append('\n');
         checks.due(call, got, want);
-        for (int what = -1; what <= 10; what++) {
-            checks.due(call + ", then count(" + what + ")", x.count(what), y.count(what));
-        }
+    }
+
+    private void sameRow() {
+        sameAnswer("count(7)", x.count(7), y.row.size());
         for (int i = 0; i < y.row.size() && i < x.count(7); i++) {
-            checks.due(call + ", then row(" + i + ")", x.row(i), y.row.get(i));
+            calls++;
+            sameAnswer("row(" + i + ")", x.row(i), y.row.get(i));
         }
-        sameEnds(call);
+    }
+
+    private void sameSection(int s, int what) {
+        sameAnswer("section(" + s + ", " + what + ")", x.section(s, what), y.section(s, what));
+    }
+
+    private void lastLook() {
+        sameRow();
+        sameEnds();
+        for (int what = 0; what < 10; what++) {
+            sameAnswer("count(" + what + ")", x.count(what), y.count(what));
+        }
         for (int s = 0; s < y.sections.size(); s++) {
             for (int what = 0; what < 4; what++) {
-                checks.due(call + ", then section(" + s + ", " + what + ")", x.section(s, what), y.section(s, what));
+                sameSection(s, what);
+            }
+        }
+        for (int p = 0; p < y.pupils.size(); p++) {
+            sameAnswer("pupil(" + p + ")", x.pupil(p), y.pupil(p));
+        }
+        for (int t = 0; t < 10; t++) {
+            for (int c = 0; c < y.n; c++) {
+                sameAnswer("bars(" + t + ", " + c + ", true)", x.bars(t, c, true), y.bars(t, c, true));
             }
         }
     }
 
-    private void sameEnds(String call) {
+    private void sameEnds() {
         for (int i : new int[] {-1, y.row.size(), Integer.MAX_VALUE, Integer.MIN_VALUE}) {
             boolean thrown = false;
             try {
@@ -73,7 +121,7 @@ public final class ModelTest {
             } catch (NoSuchElementException e) {
                 thrown = true;
             }
-            checks.due(call + ", then row(" + i + ") throws", thrown, true);
+            sameAnswer("row(" + i + ") throws", thrown ? 1 : 0, 1);
         }
     }
 
@@ -85,10 +133,10 @@ public final class ModelTest {
             for (int j = i; j < i + 4; j++) {
                 v = v << 8 | (j < signs.length() ? signs.charAt(j) : random.nextInt(256));
             }
-            same("sign(" + v + ")", x.sign(v), y.sign(v));
+            sameAnswer("sign(" + v + ")", x.sign(v), y.sign(v));
         }
         int length = signs.length();
-        same("end(" + length + ")", x.end(length) ? 1 : 0, y.end(length) ? 1 : 0);
+        sameAnswer("end(" + length + ")", x.end(length) ? 1 : 0, y.end(length) ? 1 : 0);
     }
 
     private String bent(String signs, int ofHundred) {
@@ -168,14 +216,14 @@ public final class ModelTest {
         newPupils();
         for (int p = 0; p < y.pupils.size(); p++) {
             boolean is = random.nextBoolean();
-            same("keeps(" + p + ", " + is + ")", x.keeps(p, is), y.keeps(p, is));
+            sameAnswer("keeps(" + p + ", " + is + ")", x.keeps(p, is), y.keeps(p, is));
         }
         same("best()", x.best(), y.best());
         same("exchange()", x.exchange(), y.exchange());
-        for (int p = 0; p < Math.min(8, y.pupils.size()); p++) {
+        for (int p = 0; p < y.pupils.size() && isRoomFor(2 * OTHER_CALLS); p++) {
             same("cures(" + p + ")", x.cures(p), y.cures(p));
         }
-        for (int s = 0; s < y.sections.size(); s++) {
+        for (int s = 0; s < y.sections.size() && isRoomFor(OTHER_CALLS); s++) {
             same("wants(" + s + ")", x.wants(s), y.wants(s));
         }
     }
@@ -246,8 +294,10 @@ public final class ModelTest {
         int k = some(31);
         boolean is = random.nextBoolean();
         switch (kind) {
-            case 0: case 1: newDesk(); newPupils(); break;
-            case 2: newPupils(); break;
+            case 0: case 1: case 2: if (isRoomFor(NEW_DESK_CALLS)) {
+                newDesk();
+                newPupils();
+            } break;
             case 3: case 4: case 5: same("opens(" + d + ", " + e + ", " + k + ")", x.opens(d, e, k), y.opens(d, e, k)); break;
             case 6: case 7: same("closes(" + s + ")", x.closes(s), y.closes(s)); break;
             case 8: case 9: same("seats(" + s + ", " + k + ")", x.seats(s, k), y.seats(s, k)); break;

@@ -100,9 +100,9 @@ public final class PromisesTest {
             due("4: THE TEXT is empty behind " + desks[i], x.count(8), 0);
         }
         due("4: refused ones change nothing", x.count(0) * 10 + x.count(1), 45);
-        goodDesks(x);
-        manySections(x);
-        pupilTexts(x);
+        goodDesks(new OptionLattice());
+        manySections(new OptionLattice());
+        pupilTexts(new OptionLattice());
     }
 
     private static void goodDesks(OptionLattice x) {
